@@ -73,13 +73,37 @@ public final class BoughtKin {
     private static final int AND = 11;
     private static final int OR = 12;
 
+    /** TOKENS by number: a sign is its byte, a word stands in WORDS, a NUMBER is behind all of these. */
+    private static final int END_TOKEN = -1;
+    private static final int UNKNOWN_TOKEN = 256;
+    private static final int FIRST_WORD = 257;
+    private static final int FIRST_NUMBER = 1000;
+    private static final String WORDS =
+            "price ranks bars buy for by times if or and not born lived noble debt family side age own year mood now people done last purse kin ";
+    private static final int PRICE_TOKEN = FIRST_WORD;
+    private static final int RANKS_TOKEN = FIRST_WORD + 1;
+    private static final int BARS_TOKEN = FIRST_WORD + 2;
+    private static final int BUY_TOKEN = FIRST_WORD + 3;
+    private static final int FOR_TOKEN = FIRST_WORD + 4;
+    private static final int BY_TOKEN = FIRST_WORD + 5;
+    private static final int TIMES_TOKEN = FIRST_WORD + 6;
+    private static final int IF_TOKEN = FIRST_WORD + 7;
+    private static final int OR_TOKEN = FIRST_WORD + 8;
+    private static final int AND_TOKEN = FIRST_WORD + 9;
+    private static final int NOT_TOKEN = FIRST_WORD + 10;
+    private static final int BORN_TOKEN = FIRST_WORD + 11;
+    private static final int YEAR_TOKEN = FIRST_WORD + 19;
+    private static final int NOW_TOKEN = FIRST_WORD + 21;
+    private static final int PURSE_TOKEN = FIRST_WORD + 25;
+    private static final int KIN_TOKEN = FIRST_WORD + 26;
+
+    /** Words of LAWS are numbered as they stand in WORDS, from "born" to "mood". */
     private static final int LAW_WORDS = 10;
 
-    /** Words of ORDERS by number: four plain ones, then a purse for each P, then a kin for each P, Q. */
+    /** Words of ORDERS: four plain ones as they stand in WORDS, a purse for each P, a kin for each P, Q. */
     private static final int NOW_WORD = 0;
     private static final int PEOPLE_WORD = 1;
     private static final int DONE_WORD = 2;
-    private static final int LAST_WORD = 3;
     private static final int PURSE_WORD = 4;
     private static final int KIN_WORD = PURSE_WORD + MOST_PEOPLE;
     private static final int ORDER_WORDS = KIN_WORD + MOST_PEOPLE * MOST_PEOPLE;
@@ -574,7 +598,6 @@ public final class BoughtKin {
 
         void copyFrom(People other) {
             size = other.size;
-            sold = other.sold;
             System.arraycopy(other.sex, 0, sex, 0, MOST_PEOPLE);
             System.arraycopy(other.born, 0, born, 0, MOST_PEOPLE);
             System.arraycopy(other.lived, 0, lived, 0, MOST_PEOPLE);
@@ -625,7 +648,7 @@ public final class BoughtKin {
         }
 
         boolean isSelfOrInLine(int forebear, int person) {
-            return forebear == person || isInLine(forebear, person);
+            return forebear == person || (line[person] >> forebear & 1) == 1;
         }
 
         int withLine(int person) {
@@ -808,16 +831,16 @@ public final class BoughtKin {
     /** The TAPE, read TOKEN by TOKEN. */
     private static final class Tape {
         private static final int BLANK = 32;
-        private static final int LETTER = 1;
-        private static final int DIGIT = 2;
-        private static final int OTHER = 3;
 
         private final int[] bytes = new int[MOST_BYTES];
         int size;
-        private final int[] starts = new int[MOST_BYTES];
-        private final int[] stops = new int[MOST_BYTES];
-        private int tokens;
+        private final int[] places = new int[MOST_BYTES];
+        private final int[] tokens = new int[MOST_BYTES];
+        private int many;
         private int current;
+        /** The current TOKEN, and where it begins: at the end the TEXT's length. */
+        int token = END_TOKEN;
+        int place;
 
         void append(int four) {
             for (int shift = 24; shift >= 0 && size < MOST_BYTES; shift -= 8) {
@@ -830,69 +853,84 @@ public final class BoughtKin {
             return at >= 0 && at < size ? bytes[at] : 0;
         }
 
-        /** The first TOKEN is the current one then. */
+        /** Finds all TOKENS, numbered once, since each is looked at many times; the first is the current one then. */
         void split() {
-            tokens = 0;
-            current = 0;
-            int open = OTHER;
+            String words = WORDS;
+            many = 0;
+            int behind = 0;
             for (int at = 0; at < size; at++) {
-                int kind = kindOf(bytes[at]);
-                if (bytes[at] == BLANK) {
-                    open = OTHER;
-                } else if (kind == open && kind != OTHER && tokens > 0) {
-                    stops[tokens - 1] = at + 1;
-                } else {
-                    starts[tokens] = at;
-                    stops[tokens] = at + 1;
-                    tokens++;
-                    open = kind;
+                if (at < behind || bytes[at] == BLANK) {
+                    continue;
                 }
+                places[many] = at;
+                if (isLetter(bytes[at])) {
+                    behind = behindRow(at, true);
+                    tokens[many] = wordToken(words, at, behind);
+                } else if (isDigit(bytes[at])) {
+                    behind = behindRow(at, false);
+                    tokens[many] = numberToken(at, behind);
+                } else {
+                    tokens[many] = bytes[at];
+                }
+                many++;
             }
+            current = -1;
+            step();
         }
 
-        private static int kindOf(int sign) {
-            if (sign >= 'a' && sign <= 'z') {
-                return LETTER;
+        private static boolean isLetter(int sign) {
+            return sign >= 'a' && sign <= 'z';
+        }
+
+        private static boolean isDigit(int sign) {
+            return sign >= '0' && sign <= '9';
+        }
+
+        private int behindRow(int start, boolean ofLetters) {
+            int at = start + 1;
+            for (int i = 0; i < MOST_BYTES && at < size; i++) {
+                if (ofLetters ? !isLetter(bytes[at]) : !isDigit(bytes[at])) {
+                    return at;
+                }
+                at++;
             }
-            return sign >= '0' && sign <= '9' ? DIGIT : OTHER;
+            return at;
+        }
+
+        /** Compares the word to each in the row of words, of which each has a blank behind it. */
+        private int wordToken(String words, int start, int behind) {
+            int token = FIRST_WORD;
+            int matched = 0;
+            boolean same = true;
+            for (int i = 0; i < words.length(); i++) {
+                char sign = words.charAt(i);
+                if (sign != ' ') {
+                    same = same && matched < behind - start && bytes[start + matched] == sign;
+                    matched++;
+                } else if (same && matched == behind - start) {
+                    return token;
+                } else {
+                    token++;
+                    matched = 0;
+                    same = true;
+                }
+            }
+            return UNKNOWN_TOKEN;
+        }
+
+        /** A large NUMBER is cut to one that is still too large. */
+        private int numberToken(int start, int behind) {
+            int value = 0;
+            for (int at = start; at < behind; at++) {
+                value = Math.min(value * 10 + bytes[at] - '0', MOST_NUMBER + 1);
+            }
+            return FIRST_NUMBER + value;
         }
 
         void step() {
-            current = Math.min(current + 1, tokens);
-        }
-
-        boolean isAtEnd() {
-            return current >= tokens;
-        }
-
-        /** Where the TOKEN begins; at the end the TEXT's length. */
-        int place() {
-            return current < tokens ? starts[current] : size;
-        }
-
-        boolean is(String text) {
-            if (current >= tokens || stops[current] - starts[current] != text.length()) {
-                return false;
-            }
-            int start = starts[current];
-            for (int i = 0; i < text.length(); i++) {
-                if (bytes[start + i] != text.charAt(i)) {
-                    return false;
-                }
-            }
-            return true;
-        }
-
-        /** NONE, if the TOKEN is no NUMBER; a large one is cut to what is still too large. */
-        int number() {
-            if (current >= tokens || bytes[starts[current]] < '0' || bytes[starts[current]] > '9') {
-                return NONE;
-            }
-            int value = 0;
-            for (int at = starts[current]; at < stops[current]; at++) {
-                value = Math.min(value * 10 + bytes[at] - '0', MOST_NUMBER + 1);
-            }
-            return value;
+            current = Math.min(current + 1, many);
+            token = current < many ? tokens[current] : END_TOKEN;
+            place = current < many ? places[current] : size;
         }
     }
 
@@ -1019,14 +1057,14 @@ public final class BoughtKin {
                 } else {
                     lawHead();
                 }
-                if (took("if")) {
+                if (took(IF_TOKEN)) {
                     script.openSegment(TEST_SEGMENT);
                     test();
                     script.closeSegment(TEST_SEGMENT);
                 }
-                more = took(";");
+                more = took(';');
             }
-            if (more || !tape.isAtEnd()) {
+            if (more || tape.token != END_TOKEN) {
                 blame();
             }
             return fault == NONE;
@@ -1034,30 +1072,30 @@ public final class BoughtKin {
 
         private void blame() {
             if (fault == NONE) {
-                fault = tape.place();
+                fault = tape.place;
             }
         }
 
-        private boolean sees(String text) {
-            return fault == NONE && tape.is(text);
+        private boolean sees(int token) {
+            return fault == NONE && tape.token == token;
         }
 
-        private boolean took(String text) {
-            boolean seen = fault == NONE && tape.is(text);
+        private boolean took(int token) {
+            boolean seen = fault == NONE && tape.token == token;
             if (seen) {
                 tape.step();
             }
             return seen;
         }
 
-        private void need(String text) {
-            if (!took(text)) {
+        private void need(int token) {
+            if (!took(token)) {
                 blame();
             }
         }
 
         private int neededNumber(int least, int most) {
-            int value = tape.number();
+            int value = tape.token - FIRST_NUMBER;
             if (fault != NONE || value < least || value > most) {
                 blame();
                 return least;
@@ -1067,13 +1105,13 @@ public final class BoughtKin {
         }
 
         private void lawHead() {
-            if (took("price")) {
+            if (took(PRICE_TOKEN)) {
                 script.begin(PRICE);
                 sumInto(0);
-            } else if (took("ranks")) {
+            } else if (took(RANKS_TOKEN)) {
                 script.begin(RANKS);
                 sumInto(0);
-            } else if (took("bars")) {
+            } else if (took(BARS_TOKEN)) {
                 script.begin(BARS);
             } else {
                 blame();
@@ -1081,20 +1119,20 @@ public final class BoughtKin {
         }
 
         private void orderHead() {
-            if (took("buy")) {
+            if (took(BUY_TOKEN)) {
                 script.begin(BUY);
                 sumInto(0);
-                need("for");
+                need(FOR_TOKEN);
                 sumInto(1);
-                need("by");
+                need(BY_TOKEN);
                 sumInto(2);
-            } else if (took("year")) {
+            } else if (took(YEAR_TOKEN)) {
                 script.begin(SET_YEAR);
                 sumInto(0);
             } else {
                 blame();
             }
-            if (took("times")) {
+            if (took(TIMES_TOKEN)) {
                 script.setTimes(neededNumber(1, MOST_TIMES));
             }
         }
@@ -1107,7 +1145,7 @@ public final class BoughtKin {
 
         private void test() {
             both();
-            for (int i = 0; i < MOST_BYTES && took("or"); i++) {
+            for (int i = 0; i < MOST_BYTES && took(OR_TOKEN); i++) {
                 int jump = script.add(OR, 0);
                 both();
                 script.landHere(jump);
@@ -1116,7 +1154,7 @@ public final class BoughtKin {
 
         private void both() {
             plain();
-            for (int i = 0; i < MOST_BYTES && took("and"); i++) {
+            for (int i = 0; i < MOST_BYTES && took(AND_TOKEN); i++) {
                 int jump = script.add(AND, 0);
                 plain();
                 script.landHere(jump);
@@ -1126,12 +1164,12 @@ public final class BoughtKin {
         /** A row of "not" is counted, not climbed into: a TAPE has room for a hundred. */
         private void plain() {
             boolean turned = false;
-            for (int i = 0; i < MOST_BYTES && took("not"); i++) {
+            for (int i = 0; i < MOST_BYTES && took(NOT_TOKEN); i++) {
                 turned = !turned;
             }
-            if (entered("(")) {
+            if (entered('(')) {
                 test();
-                need(")");
+                need(')');
                 brackets--;
             } else {
                 sum();
@@ -1145,20 +1183,20 @@ public final class BoughtKin {
         }
 
         private int tookComparison() {
-            if (took("<")) {
+            if (took('<')) {
                 return BELOW;
             }
-            if (took(">")) {
+            if (took('>')) {
                 return ABOVE;
             }
-            need("=");
+            need('=');
             return SAME;
         }
 
         private void sum() {
             term();
-            for (int i = 0; i < MOST_BYTES && (sees("+") || sees("-")); i++) {
-                int how = tape.is("+") ? ADD : SUBTRACT;
+            for (int i = 0; i < MOST_BYTES && (sees('+') || sees('-')); i++) {
+                int how = tape.token == '+' ? ADD : SUBTRACT;
                 tape.step();
                 term();
                 script.add(how, 0);
@@ -1167,8 +1205,8 @@ public final class BoughtKin {
 
         private void term() {
             part();
-            for (int i = 0; i < MOST_BYTES && (sees("*") || sees("/") || sees("%")); i++) {
-                int how = tape.is("*") ? MULTIPLY : tape.is("/") ? DIVIDE : REST;
+            for (int i = 0; i < MOST_BYTES && (sees('*') || sees('/') || sees('%')); i++) {
+                int how = tape.token == '*' ? MULTIPLY : tape.token == '/' ? DIVIDE : REST;
                 tape.step();
                 part();
                 script.add(how, 0);
@@ -1176,9 +1214,9 @@ public final class BoughtKin {
         }
 
         private void part() {
-            if (entered("[")) {
+            if (entered('[')) {
                 sum();
-                need("]");
+                need(']');
                 brackets--;
                 return;
             }
@@ -1189,7 +1227,7 @@ public final class BoughtKin {
                 return;
             }
             parts++;
-            if (tape.number() != NONE) {
+            if (tape.token >= FIRST_NUMBER) {
                 script.add(PUSH_NUMBER, neededNumber(0, MOST_NUMBER));
             } else {
                 script.add(PUSH_WORD, ofOrders ? orderWord() : lawWord());
@@ -1197,8 +1235,8 @@ public final class BoughtKin {
         }
 
         /** A bracket too many is the FAULT, and not gone into. */
-        private boolean entered(String bracket) {
-            if (fault != NONE || !tape.is(bracket)) {
+        private boolean entered(int bracket) {
+            if (fault != NONE || tape.token != bracket) {
                 return false;
             }
             if (brackets >= MOST_BRACKETS) {
@@ -1211,11 +1249,8 @@ public final class BoughtKin {
         }
 
         private int lawWord() {
-            int word = tape.is("born") ? 0 : tape.is("lived") ? 1 : tape.is("noble") ? 2
-                    : tape.is("debt") ? 3 : tape.is("family") ? 4 : tape.is("side") ? 5
-                    : tape.is("age") ? 6 : tape.is("own") ? 7 : tape.is("year") ? 8
-                    : tape.is("mood") ? 9 : NONE;
-            if (word == NONE) {
+            int word = tape.token - BORN_TOKEN;
+            if (word < 0 || word >= LAW_WORDS) {
                 blame();
                 return 0;
             }
@@ -1224,27 +1259,20 @@ public final class BoughtKin {
         }
 
         private int orderWord() {
-            if (took("now")) {
+            int token = tape.token;
+            if (token < NOW_TOKEN || token > KIN_TOKEN) {
+                blame();
                 return NOW_WORD;
             }
-            if (took("people")) {
-                return PEOPLE_WORD;
+            tape.step();
+            if (token < PURSE_TOKEN) {
+                return NOW_WORD + token - NOW_TOKEN;
             }
-            if (took("done")) {
-                return DONE_WORD;
+            int person = neededNumber(0, MOST_PEOPLE - 1);
+            if (token == PURSE_TOKEN) {
+                return PURSE_WORD + person;
             }
-            if (took("last")) {
-                return LAST_WORD;
-            }
-            if (took("purse")) {
-                return PURSE_WORD + neededNumber(0, MOST_PEOPLE - 1);
-            }
-            if (took("kin")) {
-                int one = neededNumber(0, MOST_PEOPLE - 1);
-                return KIN_WORD + one * MOST_PEOPLE + neededNumber(0, MOST_PEOPLE - 1);
-            }
-            blame();
-            return NOW_WORD;
+            return KIN_WORD + person * MOST_PEOPLE + neededNumber(0, MOST_PEOPLE - 1);
         }
     }
 
@@ -1403,7 +1431,7 @@ public final class BoughtKin {
             steps[start] = 0;
             queue[0] = start;
             int filled = 1;
-            for (int i = 0; i < filled; i++) {
+            for (int i = 0; i < filled && i < MOST_PEOPLE; i++) {
                 int person = queue[i];
                 for (int side = 0; side < 2; side++) {
                     int parent = side == 0 ? people.father[person] : people.mother[person];
@@ -1753,33 +1781,33 @@ public final class BoughtKin {
             if ((paper.withLine(one) & paper.withLine(other)) != 0) {
                 return 0;
             }
-            rows = 0;
-            for (int i = 0; i < many; i++) {
-                if (joins(pairs[i], one, other)) {
-                    rows++;
-                }
-            }
+            rows = joiningPairs(one, other);
             if (rows > 0) {
                 return 1;
             }
             for (int i = 0; i < many; i++) {
                 tryOut(pairs[i], linesBeforeFirst);
-                for (int j = 0; j < many; j++) {
-                    if (joins(pairs[j], one, other) && couldBeBought(pairs[j])) {
-                        rows++;
-                    }
-                }
+                rows += joiningPairs(one, other);
                 takeBack(pairs[i], linesBeforeFirst);
             }
             return rows > 0 ? 2 : NONE;
         }
 
-        private boolean joins(int code, int one, int other) {
-            int child = code / MOST_PEOPLE;
-            int added = paper.withLine(code % MOST_PEOPLE);
-            int ofOne = paper.withLine(one) | (paper.isSelfOrInLine(child, one) ? added : 0);
-            int ofOther = paper.withLine(other) | (paper.isSelfOrInLine(child, other) ? added : 0);
-            return (ofOne & ofOther) != 0;
+        /** How many pairs would make KIN of two who are not yet. */
+        private int joiningPairs(int one, int other) {
+            int ofOne = paper.withLine(one);
+            int ofOther = paper.withLine(other);
+            int joining = 0;
+            for (int i = 0; i < many; i++) {
+                int child = pairs[i] / MOST_PEOPLE;
+                int added = paper.withLine(pairs[i] % MOST_PEOPLE);
+                boolean joins = ((ofOne >> child & 1) == 1 && (added & ofOther) != 0)
+                        || ((ofOther >> child & 1) == 1 && (added & ofOne) != 0);
+                if (joins && couldBeBought(pairs[i])) {
+                    joining++;
+                }
+            }
+            return joining;
         }
 
         /** The CLAIMS that are left out, as bits. */
