@@ -899,7 +899,7 @@ public final class BoughtKin {
 
         /** Compares the word to each in the row of words, of which each has a blank behind it. */
         private int wordToken(String words, int start, int behind) {
-            int token = FIRST_WORD;
+            int number = FIRST_WORD;
             int matched = 0;
             boolean same = true;
             for (int i = 0; i < words.length(); i++) {
@@ -908,9 +908,9 @@ public final class BoughtKin {
                     same = same && matched < behind - start && bytes[start + matched] == sign;
                     matched++;
                 } else if (same && matched == behind - start) {
-                    return token;
+                    return number;
                 } else {
-                    token++;
+                    number++;
                     matched = 0;
                     same = true;
                 }

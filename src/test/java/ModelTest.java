@@ -33,14 +33,16 @@ public final class ModelTest {
         return (Integer) methods.get(call.name).invoke(on, numbers);
     }
 
-    /** How many calls were made; a run ends at the first wrong answer. */
+    /** A run ends at the first wrong answer. */
     private static void run(long seed, boolean dear) throws Exception {
         RandomCalls draws = new RandomCalls(seed, dear);
         BoughtKin real = new BoughtKin();
         PlainModel model = new PlainModel();
         List<RandomCalls.Call> made = new ArrayList<>();
         List<RandomCalls.Call> due = new ArrayList<>(draws.beginning());
-        while (made.size() < MOST_CALLS) {
+        // Short runs, too: a country of 512 calls is often one in which all are sold.
+        int many = MOST_CALLS - (int) (seed % 4) * 128;
+        while (made.size() < many) {
             while (due.isEmpty()) {
                 due.addAll(draws.next(model.now));
             }
@@ -86,8 +88,8 @@ public final class ModelTest {
 
     public static void main(String[] args) throws Exception {
         int first = Integer.getInteger("first", 0);
-        int cheapRuns = Integer.getInteger("runs", 400);
-        int dearRuns = Integer.getInteger("dear", 60);
+        int cheapRuns = Integer.getInteger("runs", 1200);
+        int dearRuns = Integer.getInteger("dear", 300);
         for (int i = first; i < first + cheapRuns && wrong < 5; i++) {
             run(i, false);
         }

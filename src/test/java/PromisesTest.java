@@ -652,6 +652,36 @@ public final class PromisesTest {
         DUE.is("25: the fewest of the cheapest", y.cheap(6, -1, 1), 2);
     }
 
+    /** 4 has a father who ranks; of mothers 1 ranks and 3 does not, and all are had for the same. */
+    private static void promise25CheapFewest() {
+        BoughtKin x = rich();
+        x.parent(2, 4);
+        law(x, "price 50 if side = 1;price 0 if side = 0;ranks 1 if born = 430;ranks 1 if family = 1");
+        DUE.is("25: one is enough", x.cheap(4, -1, 1), 1);
+        DUE.is("25: of like ones the first", x.cheap(4, -1, 2), 16 * 4 + 1);
+        DUE.is("25: a row that begins lower is longer", x.offers(2, 4) & 1, 1);
+        DUE.is("25: its price", x.cheap(4, -1, 0), 50);
+        x.put(4, 2, 50);
+        DUE.is("25: the purse just, by one", x.cheap(4, -1, 0), 50);
+        x.put(4, 2, 49);
+        DUE.is("25: the purse not, by one", x.cheap(4, -1, 0), -1);
+        x.put(4, 2, 500);
+        x.put(3, 1, 9);
+        law(x, "price 40 if debt = 9;price 0 if side = 0;ranks 1 if born = 430;ranks 1 if family = 1");
+        DUE.is("25: the cheapest ahead of the first", x.cheap(4, -1, 2), 16 * 4 + 3);
+        law(x, "bars if debt = 9;price 40 if debt = 9;ranks 1 if born = 430;ranks 1 if family = 1");
+        DUE.is("25: not a barred one", x.cheap(4, -1, 2), 16 * 4 + 1);
+        law(x, "price 50 if age > 30;price 10 if age = 30;ranks 1 if family < 3");
+        DUE.is("25: two for less than one", x.cheap(4, -1, 0), 20);
+        DUE.is("25: two", x.cheap(4, -1, 1), 2);
+        DUE.is("25: the mother", x.cheap(4, -1, 2), 16 * 4 + 3);
+        DUE.is("25: and her father", x.cheap(4, -1, 3), 16 * 3);
+        law(x, "price 30;price 10 if family = 3;price 10 if family = 1;ranks 1 if family < 3;bars if age = 60");
+        DUE.is("25: by the mother's mother", x.cheap(4, -1, 0), 20);
+        DUE.is("25: first the mother", x.cheap(4, -1, 2), 16 * 4 + 3);
+        DUE.is("25: who then can have one", x.cheap(4, -1, 3), 16 * 3 + 1);
+    }
+
     private static void promise26Join() {
         BoughtKin x = generations();
         DUE.is("26: the same", x.join(4, 4, 0), 0);
@@ -872,6 +902,50 @@ public final class PromisesTest {
         DUE.is("36: claims", x.lies(0), 0);
     }
 
+    /** What is written over behind an image must be there again. */
+    private static void promise36WrittenOver() {
+        BoughtKin x = new BoughtKin();
+        x.person(0, 400, 80, 1);
+        x.image(1);
+        x.person(1, 430, 70, 2);
+        x.put(1, 0, 1);
+        x.put(1, 1, 33);
+        x.put(1, 2, 444);
+        x.parent(0, 1);
+        x.person(0, 470, 60, 4);
+        x.claim(1, 2);
+        x.claim(0, 2);
+        x.sight(0, 2, 2);
+        x.image(0);
+        x.back(1);
+        DUE.is("36: one is there", x.count(0), 1);
+        DUE.is("36: gone", x.of(1, 4), -1);
+        x.person(0, 500, 20, 5);
+        x.person(1, 600, 30, 3);
+        x.person(1, 560, 30, 3);
+        x.claim(2, 1);
+        x.claim(2, 0);
+        x.sight(2, 1, 3);
+        x.put(2, 2, 7);
+        x.parent(1, 2);
+        x.back(0);
+        int[] want = {1, 33, 444, 1, 430, 70, 2, 0, -1, 0, 1};
+        for (int what = 0; what < want.length; what++) {
+            DUE.is("36: of(1, " + what + ")", x.of(1, what), want[what]);
+        }
+        DUE.is("36: another's line", x.line(2, 0), 0);
+        DUE.is("36: another's purse", x.of(2, 2), 0);
+        DUE.is("36: claims, both can be", x.lies(1), 0);
+        DUE.is("36: sights", x.secret(-1), 1);
+        DUE.is("36: by that one", x.secret(0), 16 * 2 + 1);
+        x.back(1);
+        DUE.is("36: one again", x.count(0), 1);
+        x.person(0, 430, 70, 2);
+        DUE.is("36: a new one has nothing", x.of(1, 2) + x.of(1, 1) + x.of(1, 0) + x.of(1, 9), 0);
+        DUE.is("36: nor a father", x.of(1, 7), -1);
+        DUE.is("36: nor a line", x.line(1, 0), 0);
+    }
+
     private static void promise37Count() {
         BoughtKin x = rich();
         x.person(2, 0, 0, 0);
@@ -965,11 +1039,13 @@ public final class PromisesTest {
         promise23Undo();
         promise24Offers();
         promise25Cheap();
+        promise25CheapFewest();
         promise26Join();
         promise27To29Claims();
         promise30To32Sights();
         promise33And34Fair();
         promise35And36Images();
+        promise36WrittenOver();
         promise37Count();
         promise38Status();
         DUE.end();
