@@ -58,6 +58,14 @@ public final class TextsTest {
         lawFault("price[1]", -1);
         lawFault("pricea 1", 0);
         lawFault("Price 1", 0);
+        lawFault("barsz", 0);
+        lawFault("abars", 0);
+        lawFault("bars`", 4);
+        lawFault("bars{", 4);
+        lawFault("price 1/0", -1);
+        lawFault("price 1:", 7);
+        lawFault("price 19", -1);
+        lawFault("price 10 9", 9);
         lawFault(" \tbars", 1);
         lawFault("bars\n", 4);
         lawFault("bars if1<2and3>2or not4=5", -1);
