@@ -1285,6 +1285,9 @@ public final class BoughtKin {
 
         /** The result, a TEST's as 1 or 0, is told by result; false: it is BROKEN. */
         boolean reckon(Script script, int at, int[] words) {
+            if (at < 0 || at >= script.from.length) {
+                return false;
+            }
             int top = 0;
             int till = Math.min(script.till[at], script.length);
             for (int i = Math.max(0, script.from[at]); i < till; i++) {
@@ -1617,6 +1620,9 @@ public final class BoughtKin {
 
         /** Only the words that stand there are looked up: all of them would be hundreds. */
         private boolean reckoned(Script script, int at) {
+            if (at < 0 || at >= script.from.length) {
+                return false;
+            }
             for (int i = script.from[at]; i < script.till[at]; i++) {
                 int word = script.operand[i];
                 if (script.operation[i] == PUSH_WORD && word >= 0 && word < ORDER_WORDS) {
