@@ -19,10 +19,10 @@ public final class BoughtKin {
     private static final int MOST_LIVED = 120;
     private static final int MOST_DEBT = 99;
     private static final int MOST_PURSE = 9999;
-    private static final int MOST_TOLD_PRICE = 9999;
+    private static final int MOST_PRICE = 9999;
     private static final int MOST_RANK = 99;
     private static final int PLAIN_PRICE = 100;
-    private static final int NOBLE_PRICE = 100;
+    private static final int NOBLE_PRICE = 200;
 
     private static final int YEAR = 0;
     private static final int BAN = 1;
@@ -1385,8 +1385,12 @@ public final class BoughtKin {
 
         int price(int parent, int child) {
             setWords(parent, child);
-            int told = anyHolds(PRICE) ? within(reckoner.result, 0, MOST_TOLD_PRICE) : PLAIN_PRICE;
-            return told + NOBLE_PRICE * country.people.noble[parent];
+            return anyHolds(PRICE) ? within(reckoner.result, 0, MOST_PRICE) : priceWithoutLaw(parent);
+        }
+
+        /** NOBLE costs more here alone: a LAW that tells a PRICE tells the whole of it. */
+        private int priceWithoutLaw(int parent) {
+            return country.people.noble[parent] == 1 ? NOBLE_PRICE : PLAIN_PRICE;
         }
 
         boolean isBarred(int parent, int child) {

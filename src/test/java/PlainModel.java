@@ -136,8 +136,8 @@ final class PlainModel {
 
         int price(int parent, int child) {
             Long t = told("price", parent, child);
-            long base = t == null ? 100 : t < 0 ? 0 : t > 9999 ? 9999 : t;
-            return (int) base + (p(parent).noble == 1 ? 100 : 0);
+            if (t == null) return p(parent).noble == 1 ? 200 : 100;
+            return (int) (t < 0 ? 0 : t > 9999 ? 9999 : t);
         }
 
         int rank(int i) {

@@ -353,12 +353,13 @@ public final class PromisesTest {
         DUE.is("17: noble", x.asks(0, 2, 0), 200);
         DUE.is("17: a noble child does not matter", x.asks(2, 0, 0), 100);
         law(x, "price 1000 * 1000; bars if own = 3 and side = 1");
-        DUE.is("17: to 9999, and noble", x.asks(0, 2, 0), 10099);
         DUE.is("17: to 9999", x.asks(1, 2, 0), 9999);
+        DUE.is("17: to 9999, though noble", x.asks(0, 2, 0), 9999);
         DUE.is("17: barred", x.asks(1, 2, 1), 1);
         DUE.is("17: not barred", x.asks(0, 2, 1), 0);
         law(x, "price 3 - 5");
         DUE.is("17: from 0", x.asks(1, 2, 0), 0);
+        DUE.is("17: from 0, though noble", x.asks(0, 2, 0), 0);
         law(x, "price 5; price 6; price 7 if 1 = 2; price 8 / 0; price 9 if 1 / 0 = 0");
         DUE.is("17: the last that holds", x.asks(1, 2, 0), 6);
         DUE.is("17: the same one", x.asks(2, 2, 0), -1);
@@ -366,6 +367,68 @@ public final class PromisesTest {
         DUE.is("17: no child", x.asks(2, -1, 0), -1);
         DUE.is("17: what 3", x.asks(1, 2, 3), -1);
         DUE.is("17: what -1", x.asks(1, 2, -1), -1);
+    }
+
+    /** NOBLE costs 100 more where no "price" HOLDS; where one HOLDS, it tells the whole PRICE. */
+    private static void promise17PriceOfNoble() {
+        BoughtKin x = rich();
+        x.put(2, 0, 1);
+        DUE.is("17: noble, no law", x.asks(2, 4, 0), 200);
+        law(x, "ranks 5; bars if 1 = 2");
+        DUE.is("17: noble, a law without price", x.asks(2, 4, 0), 200);
+        law(x, "price 7 if noble = 0");
+        DUE.is("17: noble, a price of others", x.asks(2, 4, 0), 200);
+        DUE.is("17: one of those others", x.asks(3, 4, 0), 7);
+        law(x, "price 7 / [noble - 1]");
+        DUE.is("17: noble, a broken price", x.asks(2, 4, 0), 200);
+        DUE.is("17: another, not broken", x.asks(3, 4, 0), 0);
+        law(x, "price 7 if 1 / 0 = 1");
+        DUE.is("17: noble, a broken if", x.asks(2, 4, 0), 200);
+        DUE.is("17: another, a broken if", x.asks(3, 4, 0), 100);
+        law(x, "price 70; price noble * 1000 + 8 if noble = 1 and 1 = 2");
+        DUE.is("17: noble, a price that holds", x.asks(2, 4, 0), 70);
+        DUE.is("17: as of another", x.asks(3, 4, 0), 70);
+        x.force(-1);
+        DUE.is("17: noble, in force no more", x.asks(2, 4, 0), 200);
+    }
+
+    /** The PRICE that asks() tells is the one wherever something is bought. */
+    private static void priceOfNobleWhereverBought() {
+        BoughtKin x = rich();
+        x.put(2, 0, 1);
+        x.put(3, 0, 1);
+        x.put(4, 2, 70);
+        law(x, "price 70; price 71 if side = 1");
+        DUE.is("24: a noble by the price told", x.offers(4, 4), 1 | 4);
+        DUE.is("25: two nobles are too much", x.cheap(4, -1, 0), -1);
+        x.put(4, 2, 141);
+        DUE.is("25: two nobles by the prices told", x.cheap(4, -1, 0), 141);
+        DUE.is("13: a noble by orders", orders(x, "buy 2 for 4 by 4;year last"), 2);
+        DUE.is("13: last", x.count(13), 70);
+        DUE.is("13: purse", x.of(4, 2), 71);
+        DUE.is("22: a noble", x.buy(3, 4, 4), 71);
+        DUE.is("22: purse", x.of(4, 2), 0);
+        DUE.is("7: a noble's chest", x.chest(3), 71);
+        DUE.is("23: a noble is given back", x.undo(), 3);
+        DUE.is("23: purse", x.of(4, 2), 71);
+        x.put(4, 2, 70);
+        DUE.is("22: a noble, too dear by one", x.buy(3, 4, 4), -3);
+        x.force(-1);
+        x.put(4, 2, 199);
+        DUE.is("24: a noble without a law", x.offers(4, 4), 2);
+        DUE.is("13: a noble by orders without a law", orders(x, "buy 3 for 4 by 4"), -3);
+        x.put(4, 2, 200);
+        DUE.is("24: a noble without a law, just", x.offers(4, 4), 2 | 8);
+        DUE.is("22: a noble without a law", x.buy(3, 4, 4), 200);
+        BoughtKin y = new BoughtKin();
+        y.person(0, 400, 60, 1);
+        y.person(0, 430, 60, 2);
+        y.put(0, 0, 1);
+        y.put(1, 2, 150);
+        DUE.is("33: a noble is too dear at the fair", y.fair(0, 60), 0);
+        law(y, "price 40");
+        DUE.is("33: a noble at the fair", y.fair(0, 60), 1);
+        DUE.is("34: paid at the fair", y.drawn(1, 0), 110);
     }
 
     private static void promise18Kin() {
@@ -646,8 +709,8 @@ public final class PromisesTest {
         y.terms(1, 1);
         DUE.is("25: but if they are far enough", y.cheap(4, 5, 0), 400);
         law(y, "price 0; ranks 1");
-        DUE.is("25: the first row of the cheapest", y.cheap(6, -1, 2), 16 * 6 + 4);
-        DUE.is("25: and its second", y.cheap(6, -1, 3), 16 * 6 + 5);
+        DUE.is("25: the first row of the cheapest", y.cheap(6, -1, 2), 16 * 6 + 2);
+        DUE.is("25: and its second", y.cheap(6, -1, 3), 16 * 6 + 3);
         DUE.is("25: for nothing", y.cheap(6, -1, 0), 0);
         DUE.is("25: the fewest of the cheapest", y.cheap(6, -1, 1), 2);
     }
@@ -1031,6 +1094,8 @@ public final class PromisesTest {
         promise14And15Fault();
         promise16Force();
         promise17Asks();
+        promise17PriceOfNoble();
+        priceOfNobleWhereverBought();
         promise18Kin();
         promise19Line();
         promise20Marry();

@@ -242,7 +242,7 @@ public final class TextsTest {
         Feeding.put(x, "ranks 0 - age * 10 - own; price 50 + age + side");
         x.force(x.law());
         DUE.is("age and own of one who ranks", x.of(0, 10), 11);
-        DUE.is("an age below 0, the side of the parent", x.asks(1, 0, 0), 50 - 30 + 1 + 100);
+        DUE.is("an age below 0, the side of the parent", x.asks(1, 0, 0), 50 - 30 + 1);
         Feeding.put(x, "ranks noble * 7 + side; bars if year > 444; price 5 if mood = 9");
         x.force(x.law());
         DUE.is("noble and side of one who ranks", x.of(1, 10), 8);
