@@ -1,39 +1,8 @@
 /** Each promise of the document by hand: ordinary inputs, the edges that it names, wrong inputs. */
 public final class PromisesTest {
-    private static final int LOW = Integer.MIN_VALUE;
-    private static final int HIGH = Integer.MAX_VALUE;
+    private static final int LOW = Land.LOW;
+    private static final int HIGH = Land.HIGH;
     private static final Due DUE = new Due();
-
-    /** Generations: 0, 1 (born 400), 2, 3 (430), 4, 5 (460), 6, 7 (490); even ones of sex 0, all live 80 years. */
-    private static BoughtKin generations() {
-        BoughtKin x = new BoughtKin();
-        for (int i = 0; i < 8; i++) {
-            x.person(i % 2, 400 + i / 2 * 30, 80, i % 6);
-        }
-        return x;
-    }
-
-    private static BoughtKin rich() {
-        BoughtKin x = generations();
-        for (int i = 0; i < 8; i++) {
-            x.put(i, 2, 1000);
-        }
-        return x;
-    }
-
-    private static int law(BoughtKin x, String text) {
-        Feeding.put(x, text);
-        int law = x.law();
-        if (law >= 0) {
-            x.force(law);
-        }
-        return law;
-    }
-
-    private static int orders(BoughtKin x, String text) {
-        Feeding.put(x, text);
-        return x.orders();
-    }
 
     private static void promise1NewObject() {
         BoughtKin x = new BoughtKin();
@@ -88,7 +57,7 @@ public final class PromisesTest {
     }
 
     private static void promise3Put() {
-        BoughtKin x = generations();
+        BoughtKin x = Land.generations();
         DUE.is("3: noble", x.put(0, 0, 1), 0);
         DUE.is("3: noble was", x.put(0, 0, 0), 1);
         DUE.is("3: debt", x.put(1, 1, 99), 0);
@@ -108,7 +77,7 @@ public final class PromisesTest {
     }
 
     private static void promise4Of() {
-        BoughtKin x = generations();
+        BoughtKin x = Land.generations();
         x.put(3, 0, 1);
         x.put(3, 1, 7);
         x.put(3, 2, 300);
@@ -121,7 +90,7 @@ public final class PromisesTest {
         DUE.is("4: sold", x.of(1, 9), 1);
         DUE.is("4: by birth is not sold", x.of(0, 9), 0);
         DUE.is("4: rank", x.of(0, 10), 0);
-        law(x, "ranks 120 if side = 0; ranks 3 - 5 if side = 1");
+        Land.law(x, "ranks 120 if side = 0; ranks 3 - 5 if side = 1");
         DUE.is("4: rank to 99", x.of(0, 10), 99);
         DUE.is("4: rank from 0", x.of(3, 10), 0);
         DUE.is("4: what 11", x.of(3, 11), -1);
@@ -131,7 +100,7 @@ public final class PromisesTest {
     }
 
     private static void promise5Parent() {
-        BoughtKin x = generations();
+        BoughtKin x = Land.generations();
         DUE.is("5: father", x.parent(0, 2), 0);
         DUE.is("5: mother", x.parent(1, 2), 0);
         DUE.is("5: has one", x.parent(4, 2), -3);
@@ -144,7 +113,7 @@ public final class PromisesTest {
         DUE.is("5: nobody", x.parent(8, 0), -2);
         DUE.is("5: no child", x.parent(0, -1), -2);
         DUE.is("5: nobody ahead of the same one", x.parent(9, 9), -2);
-        BoughtKin y = rich();
+        BoughtKin y = Land.rich();
         y.buy(2, 4, 4);
         DUE.is("5: a sold one by birth", y.parent(2, 5), 0);
         DUE.is("5: of two", y.line(2, 1), 1 << 4 | 1 << 5);
@@ -167,7 +136,7 @@ public final class PromisesTest {
     }
 
     private static void promise7Chest() {
-        BoughtKin x = rich();
+        BoughtKin x = Land.rich();
         x.buy(2, 4, 4);
         DUE.is("7: paid", x.chest(2), 100);
         x.put(1, 0, 1);
@@ -227,7 +196,7 @@ public final class PromisesTest {
     }
 
     private static void promise12Law() {
-        BoughtKin x = generations();
+        BoughtKin x = Land.generations();
         Feeding.put(x, "bars");
         DUE.is("12: law", x.law(), 0);
         DUE.is("12: the tape is empty", x.count(6), 0);
@@ -254,14 +223,14 @@ public final class PromisesTest {
     }
 
     private static void promise13Orders() {
-        BoughtKin x = rich();
+        BoughtKin x = Land.rich();
         DUE.is("13: empty", x.orders(), -6);
         DUE.is("13: fault", x.fault(), 0);
-        DUE.is("13: two", orders(x, "buy 2 for 4 by 4; buy 0 for 2 by 4"), 2);
+        DUE.is("13: two", Land.orders(x, "buy 2 for 4 by 4; buy 0 for 2 by 4"), 2);
         DUE.is("13: who pays", x.of(4, 2), 800);
         DUE.is("13: line", x.line(4, 0), 5);
         DUE.is("13: can be undone", x.count(5), 2);
-        DUE.is("13: wholly or not at all", orders(x, "year 20; buy 3 for 4 by 4; buy 3 for 5 by 5"), -3);
+        DUE.is("13: wholly or not at all", Land.orders(x, "year 20; buy 3 for 4 by 4; buy 3 for 5 by 5"), -3);
         DUE.is("13: year", x.count(13), 500);
         DUE.is("13: not sold", x.of(3, 9), 0);
         DUE.is("13: purse", x.of(4, 2), 800);
@@ -269,18 +238,18 @@ public final class PromisesTest {
         DUE.is("13: can be undone still", x.count(5), 2);
         DUE.is("13: the tape is empty", x.count(6), 0);
         DUE.is("13: refused once", x.count(9), 1);
-        DUE.is("13: nobody", orders(x, "buy 99 for 4 by 4"), -3);
+        DUE.is("13: nobody", Land.orders(x, "buy 99 for 4 by 4"), -3);
         DUE.is("13: nobody is refused by -3 there", x.count(8), 0);
-        DUE.is("13: year 1000", orders(x, "year 1000"), -3);
-        DUE.is("13: year below 0", orders(x, "year 0 - 1"), -3);
-        DUE.is("13: year 999", orders(x, "year 999"), 1);
-        DUE.is("13: year 0", orders(x, "year 0"), 1);
-        DUE.is("13: broken sum", orders(x, "year 1 / 0"), -3);
-        DUE.is("13: not asked for", orders(x, "year 1 / 0 if 1 = 2"), 0);
-        DUE.is("13: a broken if", orders(x, "year 5 if 1 / 0 = 1"), 0);
-        DUE.is("13: times", orders(x, "year now + 7 times 20"), 20);
+        DUE.is("13: year 1000", Land.orders(x, "year 1000"), -3);
+        DUE.is("13: year below 0", Land.orders(x, "year 0 - 1"), -3);
+        DUE.is("13: year 999", Land.orders(x, "year 999"), 1);
+        DUE.is("13: year 0", Land.orders(x, "year 0"), 1);
+        DUE.is("13: broken sum", Land.orders(x, "year 1 / 0"), -3);
+        DUE.is("13: not asked for", Land.orders(x, "year 1 / 0 if 1 = 2"), 0);
+        DUE.is("13: a broken if", Land.orders(x, "year 5 if 1 / 0 = 1"), 0);
+        DUE.is("13: times", Land.orders(x, "year now + 7 times 20"), 20);
         DUE.is("13: year 140", x.count(13), 140);
-        DUE.is("13: if each time", orders(x, "year now + 1 times 20 if now < 150"), 10);
+        DUE.is("13: if each time", Land.orders(x, "year now + 1 times 20 if now < 150"), 10);
         DUE.is("13: bought by the latest", x.undo(), 0);
         DUE.is("13: and the one ahead", x.undo(), 2);
         DUE.is("13: no more", x.undo(), -3);
@@ -288,28 +257,28 @@ public final class PromisesTest {
     }
 
     private static void promise14And15Fault() {
-        BoughtKin x = rich();
+        BoughtKin x = Land.rich();
         Feeding.put(x, "price 5 5");
         x.law();
         DUE.is("14: of a law", x.fault(), 8);
-        orders(x, "year");
+        Land.orders(x, "year");
         DUE.is("14: of orders", x.fault(), 4);
-        orders(x, "year 1;year 2000");
+        Land.orders(x, "year 1;year 2000");
         DUE.is("14: 2000 is too large", x.fault(), 12);
-        orders(x, "year 1;year 20;buy 3 for 3 by 3");
+        Land.orders(x, "year 1;year 20;buy 3 for 3 by 3");
         DUE.is("14: none", x.fault(), -1);
         DUE.is("15: which", x.stopped(), 2);
         Feeding.put(x, "bars x");
         x.law();
         DUE.is("15: a law does not matter", x.stopped(), 2);
-        orders(x, "year 3");
+        Land.orders(x, "year 3");
         DUE.is("15: none", x.stopped(), -1);
-        orders(x, "year 1000");
+        Land.orders(x, "year 1000");
         DUE.is("15: the first", x.stopped(), 0);
-        orders(x, "year");
+        Land.orders(x, "year");
         DUE.is("15: not run at all", x.stopped(), -1);
         x.image(0);
-        orders(x, "year 1000");
+        Land.orders(x, "year 1000");
         Feeding.put(x, "price");
         x.law();
         x.back(0);
@@ -318,7 +287,7 @@ public final class PromisesTest {
     }
 
     private static void promise16Force() {
-        BoughtKin x = generations();
+        BoughtKin x = Land.generations();
         DUE.is("16: there is none", x.force(0), -2);
         DUE.is("16: none to none", x.force(-1), -1);
         DUE.is("16: that is no refusal", x.status(), 0);
@@ -352,15 +321,15 @@ public final class PromisesTest {
         x.put(0, 0, 1);
         DUE.is("17: noble", x.asks(0, 2, 0), 200);
         DUE.is("17: a noble child does not matter", x.asks(2, 0, 0), 100);
-        law(x, "price 1000 * 1000; bars if own = 3 and side = 1");
+        Land.law(x, "price 1000 * 1000; bars if own = 3 and side = 1");
         DUE.is("17: to 9999", x.asks(1, 2, 0), 9999);
         DUE.is("17: to 9999, though noble", x.asks(0, 2, 0), 9999);
         DUE.is("17: barred", x.asks(1, 2, 1), 1);
         DUE.is("17: not barred", x.asks(0, 2, 1), 0);
-        law(x, "price 3 - 5");
+        Land.law(x, "price 3 - 5");
         DUE.is("17: from 0", x.asks(1, 2, 0), 0);
         DUE.is("17: from 0, though noble", x.asks(0, 2, 0), 0);
-        law(x, "price 5; price 6; price 7 if 1 = 2; price 8 / 0; price 9 if 1 / 0 = 0");
+        Land.law(x, "price 5; price 6; price 7 if 1 = 2; price 8 / 0; price 9 if 1 / 0 = 0");
         DUE.is("17: the last that holds", x.asks(1, 2, 0), 6);
         DUE.is("17: the same one", x.asks(2, 2, 0), -1);
         DUE.is("17: nobody", x.asks(8, 2, 0), -1);
@@ -371,21 +340,21 @@ public final class PromisesTest {
 
     /** NOBLE costs 100 more where no "price" HOLDS; where one HOLDS, it tells the whole PRICE. */
     private static void promise17PriceOfNoble() {
-        BoughtKin x = rich();
+        BoughtKin x = Land.rich();
         x.put(2, 0, 1);
         DUE.is("17: noble, no law", x.asks(2, 4, 0), 200);
-        law(x, "ranks 5; bars if 1 = 2");
+        Land.law(x, "ranks 5; bars if 1 = 2");
         DUE.is("17: noble, a law without price", x.asks(2, 4, 0), 200);
-        law(x, "price 7 if noble = 0");
+        Land.law(x, "price 7 if noble = 0");
         DUE.is("17: noble, a price of others", x.asks(2, 4, 0), 200);
         DUE.is("17: one of those others", x.asks(3, 4, 0), 7);
-        law(x, "price 7 / [noble - 1]");
+        Land.law(x, "price 7 / [noble - 1]");
         DUE.is("17: noble, a broken price", x.asks(2, 4, 0), 200);
         DUE.is("17: another, not broken", x.asks(3, 4, 0), 0);
-        law(x, "price 7 if 1 / 0 = 1");
+        Land.law(x, "price 7 if 1 / 0 = 1");
         DUE.is("17: noble, a broken if", x.asks(2, 4, 0), 200);
         DUE.is("17: another, a broken if", x.asks(3, 4, 0), 100);
-        law(x, "price 70; price noble * 1000 + 8 if noble = 1 and 1 = 2");
+        Land.law(x, "price 70; price noble * 1000 + 8 if noble = 1 and 1 = 2");
         DUE.is("17: noble, a price that holds", x.asks(2, 4, 0), 70);
         DUE.is("17: as of another", x.asks(3, 4, 0), 70);
         x.force(-1);
@@ -394,16 +363,16 @@ public final class PromisesTest {
 
     /** The PRICE that asks() tells is the one wherever something is bought. */
     private static void priceOfNobleWhereverBought() {
-        BoughtKin x = rich();
+        BoughtKin x = Land.rich();
         x.put(2, 0, 1);
         x.put(3, 0, 1);
         x.put(4, 2, 70);
-        law(x, "price 70; price 71 if side = 1");
+        Land.law(x, "price 70; price 71 if side = 1");
         DUE.is("24: a noble by the price told", x.offers(4, 4), 1 | 4);
         DUE.is("25: two nobles are too much", x.cheap(4, -1, 0), -1);
         x.put(4, 2, 141);
         DUE.is("25: two nobles by the prices told", x.cheap(4, -1, 0), 141);
-        DUE.is("13: a noble by orders", orders(x, "buy 2 for 4 by 4;year last"), 2);
+        DUE.is("13: a noble by orders", Land.orders(x, "buy 2 for 4 by 4;year last"), 2);
         DUE.is("13: last", x.count(13), 70);
         DUE.is("13: purse", x.of(4, 2), 71);
         DUE.is("22: a noble", x.buy(3, 4, 4), 71);
@@ -416,7 +385,7 @@ public final class PromisesTest {
         x.force(-1);
         x.put(4, 2, 199);
         DUE.is("24: a noble without a law", x.offers(4, 4), 2);
-        DUE.is("13: a noble by orders without a law", orders(x, "buy 3 for 4 by 4"), -3);
+        DUE.is("13: a noble by orders without a law", Land.orders(x, "buy 3 for 4 by 4"), -3);
         x.put(4, 2, 200);
         DUE.is("24: a noble without a law, just", x.offers(4, 4), 2 | 8);
         DUE.is("22: a noble without a law", x.buy(3, 4, 4), 200);
@@ -426,13 +395,13 @@ public final class PromisesTest {
         y.put(0, 0, 1);
         y.put(1, 2, 150);
         DUE.is("33: a noble is too dear at the fair", y.fair(0, 60), 0);
-        law(y, "price 40");
+        Land.law(y, "price 40");
         DUE.is("33: a noble at the fair", y.fair(0, 60), 1);
         DUE.is("34: paid at the fair", y.drawn(1, 0), 110);
     }
 
     private static void promise18Kin() {
-        BoughtKin x = generations();
+        BoughtKin x = Land.generations();
         x.parent(0, 2);
         x.parent(1, 2);
         x.parent(0, 3);
@@ -464,7 +433,7 @@ public final class PromisesTest {
     }
 
     private static void promise19Line() {
-        BoughtKin x = generations();
+        BoughtKin x = Land.generations();
         x.parent(0, 2);
         x.parent(1, 2);
         x.parent(0, 3);
@@ -526,7 +495,7 @@ public final class PromisesTest {
     }
 
     private static void promise20Marry() {
-        BoughtKin x = generations();
+        BoughtKin x = Land.generations();
         x.parent(0, 2);
         x.parent(0, 3);
         x.parent(2, 4);
@@ -555,7 +524,7 @@ public final class PromisesTest {
     }
 
     private static void promise21Forged() {
-        BoughtKin x = generations();
+        BoughtKin x = Land.generations();
         x.parent(0, 2);
         DUE.is("21: none", x.forged(), 0);
         x.parent(6, 3);
@@ -565,14 +534,14 @@ public final class PromisesTest {
         DUE.is("21: by the gap", x.forged(), 4 | 8 | 128);
         x.terms(2, 30);
         DUE.is("21: just the gap", x.forged(), 8 | 128);
-        BoughtKin y = rich();
+        BoughtKin y = Land.rich();
         y.buy(2, 4, 4);
         y.terms(2, 40);
         DUE.is("21: what was bought, too", y.forged(), 16);
     }
 
     private static void promise22Buy() {
-        BoughtKin x = rich();
+        BoughtKin x = Land.rich();
         DUE.is("22: nobody", x.buy(8, 4, 4), -2);
         DUE.is("22: no child", x.buy(2, -1, 4), -2);
         DUE.is("22: nobody pays", x.buy(2, 4, 16), -2);
@@ -592,11 +561,11 @@ public final class PromisesTest {
         x.put(6, 2, 100);
         DUE.is("22: the purse has it just", x.buy(4, 6, 6), 100);
         DUE.is("22: nothing is left", x.of(6, 2), 0);
-        law(x, "bars if born = 430; price 0");
+        Land.law(x, "bars if born = 430; price 0");
         DUE.is("22: barred", x.buy(3, 4, 4), -3);
         DUE.is("22: for nothing", x.buy(5, 6, 6), 0);
         DUE.is("22: people sold", x.count(1), 4);
-        BoughtKin y = rich();
+        BoughtKin y = Land.rich();
         y.parent(6, 2);
         DUE.is("22: has the child in the line", y.buy(2, 6, 6), -3);
         y.terms(2, 31);
@@ -604,7 +573,7 @@ public final class PromisesTest {
     }
 
     private static void promise23Undo() {
-        BoughtKin x = rich();
+        BoughtKin x = Land.rich();
         DUE.is("23: none", x.undo(), -3);
         x.buy(2, 4, 4);
         x.buy(0, 2, 4);
@@ -615,7 +584,7 @@ public final class PromisesTest {
         DUE.is("23: refused ones do not matter", x.count(5), 2);
         x.terms(0, 700);
         x.force(-1);
-        law(x, "price 3");
+        Land.law(x, "price 3");
         DUE.is("23: the latest", x.undo(), 0);
         DUE.is("23: the price that was paid", x.of(4, 2), 900);
         DUE.is("23: chest", x.chest(0), 0);
@@ -628,7 +597,7 @@ public final class PromisesTest {
         DUE.is("23: purse", x.of(4, 2), 1000);
         DUE.is("23: no more", x.undo(), -3);
         for (int how = 0; how < 4; how++) {
-            BoughtKin y = rich();
+            BoughtKin y = Land.rich();
             y.buy(2, 4, 4);
             if (how == 0) {
                 y.person(0, 0, 0, 0);
@@ -646,7 +615,7 @@ public final class PromisesTest {
     }
 
     private static void promise24Offers() {
-        BoughtKin x = rich();
+        BoughtKin x = Land.rich();
         DUE.is("24: all who fit", x.offers(4, 4), 15);
         DUE.is("24: another one", x.offers(4, 5), 0);
         x.buy(2, 4, 4);
@@ -657,14 +626,14 @@ public final class PromisesTest {
         x.put(4, 2, 100);
         x.put(3, 0, 1);
         DUE.is("24: by the price", x.offers(4, 4), 2);
-        law(x, "bars if family = 1");
+        Land.law(x, "bars if family = 1");
         DUE.is("24: by the law", x.offers(4, 4), 0);
         DUE.is("24: nobody", x.offers(8, 4), -1);
         DUE.is("24: nobody pays", x.offers(4, -1), -1);
     }
 
     private static void promise25Cheap() {
-        BoughtKin x = rich();
+        BoughtKin x = Land.rich();
         x.terms(0, 500);
         DUE.is("25: nobody ranks", x.cheap(6, -1, 0), -1);
         x.put(2, 0, 1);
@@ -699,7 +668,7 @@ public final class PromisesTest {
         DUE.is("25: what -1", x.cheap(4, -1, -1), -1);
         DUE.is("25: what high", x.cheap(4, -1, HIGH), -1);
         DUE.is("25: on paper", x.count(5), 0);
-        BoughtKin y = rich();
+        BoughtKin y = Land.rich();
         y.terms(0, 495);
         y.parent(3, 5);
         for (int i = 2; i < 4; i++) {
@@ -708,7 +677,7 @@ public final class PromisesTest {
         DUE.is("25: near kin of the other are not bought", y.cheap(4, 5, 0), -1);
         y.terms(1, 1);
         DUE.is("25: but if they are far enough", y.cheap(4, 5, 0), 400);
-        law(y, "price 0; ranks 1");
+        Land.law(y, "price 0; ranks 1");
         DUE.is("25: the first row of the cheapest", y.cheap(6, -1, 2), 16 * 6 + 2);
         DUE.is("25: and its second", y.cheap(6, -1, 3), 16 * 6 + 3);
         DUE.is("25: for nothing", y.cheap(6, -1, 0), 0);
@@ -717,9 +686,9 @@ public final class PromisesTest {
 
     /** 4 has a father who ranks; of mothers 1 ranks and 3 does not, and all are had for the same. */
     private static void promise25CheapFewest() {
-        BoughtKin x = rich();
+        BoughtKin x = Land.rich();
         x.parent(2, 4);
-        law(x, "price 50 if side = 1;price 0 if side = 0;ranks 1 if born = 430;ranks 1 if family = 1");
+        Land.law(x, "price 50 if side = 1;price 0 if side = 0;ranks 1 if born = 430;ranks 1 if family = 1");
         DUE.is("25: one is enough", x.cheap(4, -1, 1), 1);
         DUE.is("25: of like ones the first", x.cheap(4, -1, 2), 16 * 4 + 1);
         DUE.is("25: a row that begins lower is longer", x.offers(2, 4) & 1, 1);
@@ -730,23 +699,23 @@ public final class PromisesTest {
         DUE.is("25: the purse not, by one", x.cheap(4, -1, 0), -1);
         x.put(4, 2, 500);
         x.put(3, 1, 9);
-        law(x, "price 40 if debt = 9;price 0 if side = 0;ranks 1 if born = 430;ranks 1 if family = 1");
+        Land.law(x, "price 40 if debt = 9;price 0 if side = 0;ranks 1 if born = 430;ranks 1 if family = 1");
         DUE.is("25: the cheapest ahead of the first", x.cheap(4, -1, 2), 16 * 4 + 3);
-        law(x, "bars if debt = 9;price 40 if debt = 9;ranks 1 if born = 430;ranks 1 if family = 1");
+        Land.law(x, "bars if debt = 9;price 40 if debt = 9;ranks 1 if born = 430;ranks 1 if family = 1");
         DUE.is("25: not a barred one", x.cheap(4, -1, 2), 16 * 4 + 1);
-        law(x, "price 50 if age > 30;price 10 if age = 30;ranks 1 if family < 3");
+        Land.law(x, "price 50 if age > 30;price 10 if age = 30;ranks 1 if family < 3");
         DUE.is("25: two for less than one", x.cheap(4, -1, 0), 20);
         DUE.is("25: two", x.cheap(4, -1, 1), 2);
         DUE.is("25: the mother", x.cheap(4, -1, 2), 16 * 4 + 3);
         DUE.is("25: and her father", x.cheap(4, -1, 3), 16 * 3);
-        law(x, "price 30;price 10 if family = 3;price 10 if family = 1;ranks 1 if family < 3;bars if age = 60");
+        Land.law(x, "price 30;price 10 if family = 3;price 10 if family = 1;ranks 1 if family < 3;bars if age = 60");
         DUE.is("25: by the mother's mother", x.cheap(4, -1, 0), 20);
         DUE.is("25: first the mother", x.cheap(4, -1, 2), 16 * 4 + 3);
         DUE.is("25: who then can have one", x.cheap(4, -1, 3), 16 * 3 + 1);
     }
 
     private static void promise26Join() {
-        BoughtKin x = generations();
+        BoughtKin x = Land.generations();
         DUE.is("26: the same", x.join(4, 4, 0), 0);
         DUE.is("26: in one row", x.join(4, 4, 1), 1);
         DUE.is("26: parent and child", x.join(2, 4, 0), 1);
@@ -761,7 +730,7 @@ public final class PromisesTest {
         y.parent(1, 2);
         DUE.is("26: by two", y.join(0, 3, 0), 2);
         DUE.is("26: either of two, in either order", y.join(0, 3, 1), 4);
-        law(y, "bars; price 1000");
+        Land.law(y, "bars; price 1000");
         DUE.is("26: bars and prices aside", y.join(0, 3, 0), 2);
         y.terms(2, 40);
         DUE.is("26: fewer by the gap", y.join(0, 3, 1), 2);
@@ -778,7 +747,7 @@ public final class PromisesTest {
     }
 
     private static void promise27To29Claims() {
-        BoughtKin x = generations();
+        BoughtKin x = Land.generations();
         DUE.is("27: the same one", x.claim(3, 3), -1);
         DUE.is("27: the same one ahead of nobody", x.claim(9, 9), -1);
         DUE.is("27: nobody", x.claim(8, 3), -2);
@@ -816,13 +785,13 @@ public final class PromisesTest {
         x.claim(5, 4);
         x.claim(3, 5);
         DUE.is("29: one lie is enough where two would do", x.lies(0), 2);
-        law(x, "bars; price 1000");
+        Land.law(x, "bars; price 1000");
         DUE.is("29: bars aside", x.lies(0), 2);
         DUE.is("29: on paper", x.count(1), 0);
     }
 
     private static void promise30To32Sights() {
-        BoughtKin x = generations();
+        BoughtKin x = Land.generations();
         DUE.is("32: without sights all that can be", x.secret(-1), 20);
         DUE.is("32: the first", x.secret(0), 32);
         DUE.is("32: the last", x.secret(19), 16 * 7 + 5);
@@ -854,10 +823,10 @@ public final class PromisesTest {
         DUE.is("31: eight", x.forget(), 8);
         DUE.is("31: none", x.forget(), 0);
         DUE.is("31: count", x.count(3), 0);
-        BoughtKin y = rich();
+        BoughtKin y = Land.rich();
         y.buy(0, 2, 2);
         y.sight(0, 2, 1);
-        law(y, "bars; price 1000");
+        Land.law(y, "bars; price 1000");
         y.put(4, 2, 0);
         DUE.is("32: what is so already stays, bars aside", y.secret(-1), 16);
         DUE.is("32: on paper", y.count(1), 1);
@@ -874,7 +843,7 @@ public final class PromisesTest {
         x.person(0, 430, 60, 2);
         x.put(1, 2, 150);
         DUE.is("34: ahead of any", x.drawn(0, 0), -1);
-        // s by the rule, each modulo 2: 12345 (1), 628949 (1), 744523 (1), 210351 (1), ...
+        // s by the rule: 12345, 628841, 621889, ..., each modulo 2
         long s = 0;
         int bought = 0;
         for (int i = 0; i < 60; i++) {
@@ -913,7 +882,7 @@ public final class PromisesTest {
     }
 
     private static void promise35And36Images() {
-        BoughtKin x = rich();
+        BoughtKin x = Land.rich();
         DUE.is("36: not kept", x.back(0), -2);
         DUE.is("36: k 2", x.back(2), -1);
         DUE.is("36: k -1", x.back(-1), -1);
@@ -922,7 +891,7 @@ public final class PromisesTest {
         x.buy(2, 4, 4);
         x.claim(0, 2);
         x.sight(0, 2, 1);
-        law(x, "price 70");
+        Land.law(x, "price 70");
         x.terms(3, 6);
         DUE.is("35: kept", x.image(0), 0);
         DUE.is("35: what can be undone stays", x.count(5), 1);
@@ -932,7 +901,7 @@ public final class PromisesTest {
         x.put(4, 0, 1);
         x.dismiss();
         x.forget();
-        law(x, "price 80");
+        Land.law(x, "price 80");
         x.terms(3, 7);
         x.parent(3, 4);
         DUE.is("35: the other", x.image(1), 0);
@@ -953,7 +922,7 @@ public final class PromisesTest {
         DUE.is("36: chest", x.chest(0), 0);
         DUE.is("36: price", x.asks(0, 2, 0), 70);
         x.end(0);
-        law(x, "price 90");
+        Land.law(x, "price 90");
         DUE.is("36: another law there", x.asks(0, 2, 0), 90);
         DUE.is("36: refused calls are not kept", x.count(8), 2);
         DUE.is("36: to the other", x.back(1), 0);
@@ -1010,7 +979,7 @@ public final class PromisesTest {
     }
 
     private static void promise37Count() {
-        BoughtKin x = rich();
+        BoughtKin x = Land.rich();
         x.person(2, 0, 0, 0);
         x.terms(9, 9);
         x.put(9, 0, 0);
@@ -1035,7 +1004,7 @@ public final class PromisesTest {
     }
 
     private static void promise38Status() {
-        BoughtKin x = generations();
+        BoughtKin x = Land.generations();
         x.person(2, 0, 0, 0);
         DUE.is("38: -1", x.status(), -1);
         x.of(99, 0);
