@@ -539,7 +539,7 @@ public final class EdgesOfKinTest {
         }
     }
 
-    /** Promise 23: "(by ORDERS, too; 16 are kept)": no more than 15 can be, since the youngest is nobody's parent. */
+    /** Promise 23: "(by ORDERS, too; 16 are kept)": no more than 15 can be, since somebody is nobody's parent. */
     private static void undoAll() {
         BoughtKin x = Land.ladder();
         DUE.is("23: eight by ORDERS", Land.orders(x, "buy 14 - done for 15 - done by 15 times 8"), 8);
