@@ -1627,7 +1627,8 @@ public final class BoughtKin {
             if (at < 0 || at >= script.from.length) {
                 return false;
             }
-            for (int i = script.from[at]; i < script.till[at]; i++) {
+            int till = Math.min(script.till[at], script.length);
+            for (int i = Math.max(0, script.from[at]); i < till; i++) {
                 int word = script.operand[i];
                 if (script.operation[i] == PUSH_WORD && word >= 0 && word < ORDER_WORDS) {
                     words[word] = valueOf(word);
